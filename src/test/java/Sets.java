@@ -1,0 +1,103 @@
+/** Makes formulas and beliefs out of sets of worlds, by the public calls alone; bit w of a set stands for world w. */
+final class Sets {
+    private Sets() {
+    }
+
+    static long of(int... worlds) {
+        long set = 0;
+        for (int w : worlds) {
+            set |= 1L << w;
+        }
+        return set;
+    }
+
+    static long all(int n) {
+        return n == 6 ? -1L : (1L << (1 << n)) - 1;
+    }
+
+    /** Puts the formula on the stack that is true just at the worlds of the set; needs n + 2 free places at the most. */
+    static void push(BeliefBase x, int n, long set) {
+        if (set == 0) {
+            x.atom(0);
+            x.atom(0);
+            x.connect(BeliefBase.XOR);
+        } else if (set == all(n)) {
+            x.atom(0);
+            x.atom(0);
+            x.connect(BeliefBase.IMPLIES);
+        } else {
+            pushPart(x, n, set);
+        }
+    }
+
+    // A formula over v and the variables below it is "low xor (v and change)": low is how it is where v is 0,
+    // change is where that differs from how it is where v is 1. So few calls are needed, far below 512.
+    private static void pushPart(BeliefBase x, int variables, long part) {
+        if (variables == 0) {
+            x.atom(0);
+            x.atom(0);
+            x.connect(part == 0 ? BeliefBase.XOR : BeliefBase.IMPLIES);
+            return;
+        }
+        int v = variables - 1;
+        long low = part & all(v);
+        long change = low ^ (part >>> (1 << v));
+        if (change == 0) {
+            pushPart(x, v, low);
+            return;
+        }
+        boolean alwaysChanges = change == all(v);
+        if (alwaysChanges) {
+            x.atom(v);
+        } else {
+            pushPart(x, v, change);
+            x.atom(v);
+            x.connect(BeliefBase.AND);
+        }
+        if (low != 0) {
+            pushPart(x, v, low);
+            x.connect(BeliefBase.XOR);
+        }
+    }
+
+    /** Makes a belief that holds all worlds hold just those of the set. */
+    static void narrow(BeliefBase x, int n, int b, long set) {
+        push(x, n, set);
+        x.expand(b);
+    }
+
+    /** A new object with the worlds of the three beliefs. */
+    static BeliefBase base(int n, long first, long second, long third) {
+        BeliefBase x = new BeliefBase(n);
+        narrow(x, n, 0, first);
+        narrow(x, n, 1, second);
+        narrow(x, n, 2, third);
+        return x;
+    }
+
+    static BeliefBase base(int n, long first) {
+        BeliefBase x = new BeliefBase(n);
+        narrow(x, n, 0, first);
+        return x;
+    }
+
+    static long belief(BeliefBase x, int b) {
+        long set = 0;
+        int held = x.holds(b, 0);
+        for (int w = 0; held >= 0; held = x.holds(b, w)) {
+            set |= (long) held << w;
+            w++;
+        }
+        return set;
+    }
+
+    static long top(BeliefBase x) {
+        long set = 0;
+        int isTrue = x.truth(0);
+        for (int w = 0; isTrue >= 0; isTrue = x.truth(w)) {
+            set |= (long) isTrue << w;
+            w++;
+        }
+        return set;
+    }
+}
