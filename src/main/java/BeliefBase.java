@@ -116,7 +116,7 @@ public final class BeliefBase {
             return -2;
         }
         long formula = takeOff();
-        long nearest = nearestTo(beliefs[b], formula);
+        long nearest = nearestToBoth(beliefs[b], beliefs[b], formula);
         return become(b, nearest);
     }
 
@@ -149,7 +149,7 @@ public final class BeliefBase {
         if ((belief & ~formula) != 0L) {
             return become(b, belief);
         }
-        long joining = nearestTo(belief, everyWorld & ~formula);
+        long joining = nearestToBoth(belief, belief, everyWorld & ~formula);
         return become(b, belief | joining);
     }
 
@@ -402,11 +402,10 @@ public final class BeliefBase {
         return wide;
     }
 
-    private long nearestTo(long belief, long candidates) {
-        // Twice a distance is least where the distance itself is.
-        return nearestToBoth(belief, belief, candidates);
-    }
-
+    /**
+     * The candidates for which the sum of the distances from the two beliefs is least. A single belief is handed over
+     * twice, since twice a distance is least where the distance itself is.
+     */
     private long nearestToBoth(long one, long other, long candidates) {
         long nearest = 0L;
         // The greatest sum there is, that of two empty beliefs: the first candidate is never above it.

@@ -1,5 +1,9 @@
+import java.util.function.IntUnaryOperator;
+
 /** Makes formulas and beliefs out of sets of worlds, by the public calls alone; bit w of a set stands for world w. */
 final class Sets {
+    private static final int MOST_WORLDS = 64;
+
     private Sets() {
     }
 
@@ -31,7 +35,8 @@ final class Sets {
     }
 
     // A formula over v and the variables below it is "low xor (v and change)": low is how it is where v is 0,
-    // change is where that differs from how it is where v is 1. So few calls are needed, far below 512.
+    // change is where that differs from how it is where v is 1. So few calls are needed that a test which makes several
+    // formulas stays below the 512 calls that an object is good for.
     private static void pushPart(BeliefBase x, int variables, long part) {
         if (variables == 0) {
             x.atom(0);
@@ -41,9 +46,17 @@ final class Sets {
         }
         int v = variables - 1;
         long low = part & all(v);
-        long change = low ^ (part >>> (1 << v));
+        long high = part >>> (1 << v);
+        long change = low ^ high;
         if (change == 0) {
             pushPart(x, v, low);
+            return;
+        }
+        if (high == 0) {
+            pushPart(x, v, low);
+            x.atom(v);
+            x.connect(BeliefBase.NOT);
+            x.connect(BeliefBase.AND);
             return;
         }
         boolean alwaysChanges = change == all(v);
@@ -82,21 +95,21 @@ final class Sets {
     }
 
     static long belief(BeliefBase x, int b) {
-        long set = 0;
-        int held = x.holds(b, 0);
-        for (int w = 0; held >= 0; held = x.holds(b, w)) {
-            set |= (long) held << w;
-            w++;
-        }
-        return set;
+        return gathered(w -> x.holds(b, w));
     }
 
     static long top(BeliefBase x) {
+        return gathered(x::truth);
+    }
+
+    private static long gathered(IntUnaryOperator question) {
         long set = 0;
-        int isTrue = x.truth(0);
-        for (int w = 0; isTrue >= 0; isTrue = x.truth(w)) {
-            set |= (long) isTrue << w;
-            w++;
+        for (int w = 0; w < MOST_WORLDS; w++) {
+            int answer = question.applyAsInt(w);
+            if (answer < 0) {
+                break;
+            }
+            set |= (long) answer << w;
         }
         return set;
     }
