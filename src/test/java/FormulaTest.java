@@ -106,7 +106,7 @@ public final class FormulaTest {
     }
 
     private static void connectTruthTables() {
-        // Columns: A and B both 0, A alone, B alone, both; with A = variable 0 and B = variable 1 these are worlds 0 .. 3.
+        // Columns: neither, A alone, B alone, both; with A = variable 0 and B = variable 1 these are worlds 0 .. 3.
         int[][] tables = {{}, {0, 0, 0, 1}, {0, 1, 1, 1}, {0, 1, 1, 0}, {1, 0, 1, 1}};
         for (int n = 2; n <= 6; n++) {
             for (int kind = BeliefBase.AND; kind <= BeliefBase.IMPLIES; kind++) {

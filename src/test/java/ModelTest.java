@@ -183,7 +183,8 @@ public final class ModelTest {
             case 13: DUE.due(told + "distance(" + a + ", " + b + ")", x.distance(a, b), m.distance(a, b)); break;
             case 14: DUE.due(told + "reach(" + a + ", " + b + ")", x.reach(a, b), m.reach(a, b)); break;
             case 15: DUE.due(told + "matters(" + b + ", " + v + ")", x.matters(b, v), m.matters(b, v)); break;
-            case 16: DUE.due(told + "defined(" + b + ", " + v + ", " + w + ")", x.defined(b, v, w), m.defined(b, v, w)); break;
+            case 16:
+                DUE.due(told + "defined(" + b + ", " + v + ", " + w + ")", x.defined(b, v, w), m.defined(b, v, w)); break;
             case 17: DUE.due(told + "primes(" + b + ")", x.primes(b), m.primes(b)); break;
             case 18: DUE.due(told + "quote(" + b + ")", x.quote(b), m.quote(b)); break;
             case 19: case 20: case 21: case 22: case 23:
@@ -194,8 +195,12 @@ public final class ModelTest {
 
     /** A number below bound, but now and then one outside it. */
     private static int argument(int bound) {
-        int kind = random(40);
-        return kind == 0 ? bound : kind == 1 ? -1 : kind == 2 ? Due.NEVER_GOOD[random(Due.NEVER_GOOD.length)] : random(bound);
+        switch (random(40)) {
+            case 0: return bound;
+            case 1: return -1;
+            case 2: return Due.NEVER_GOOD[random(Due.NEVER_GOOD.length)];
+            default: return random(bound);
+        }
     }
 
     /** Sets of all sizes: some with few worlds, some with about half of them. */

@@ -19,58 +19,52 @@ final class Sets {
         return n == 6 ? -1L : (1L << (1 << n)) - 1;
     }
 
-    /** Puts the formula on the stack that is true just at the worlds of the set; needs n + 2 free places at the most. */
+    /** Puts the formula on the stack that is true just at the worlds of the set; needs n free places. */
     static void push(BeliefBase x, int n, long set) {
-        if (set == 0) {
+        if (set == 0 || set == all(n)) {
             x.atom(0);
             x.atom(0);
-            x.connect(BeliefBase.XOR);
-        } else if (set == all(n)) {
-            x.atom(0);
-            x.atom(0);
-            x.connect(BeliefBase.IMPLIES);
+            x.connect(set == 0 ? BeliefBase.XOR : BeliefBase.IMPLIES);
         } else {
-            pushPart(x, n, set);
+            pushPart(x, n - 1, set);
         }
     }
 
-    // A formula over v and the variables below it is "low xor (v and change)": low is how it is where v is 0,
-    // change is where that differs from how it is where v is 1. So few calls are needed that a test which makes several
-    // formulas stays below the 512 calls that an object is good for.
-    private static void pushPart(BeliefBase x, int variables, long part) {
-        if (variables == 0) {
-            x.atom(0);
-            x.atom(0);
-            x.connect(part == 0 ? BeliefBase.XOR : BeliefBase.IMPLIES);
-            return;
-        }
-        int v = variables - 1;
+    // A formula over v and the variables below it, true at some of their worlds but not at all: "(change and v) xor low".
+    // low is how it is where v is 0, change is where that differs from how it is where v is 1. So few calls are needed
+    // that a test which makes several formulas stays below the 512 calls that an object is good for.
+    private static void pushPart(BeliefBase x, int v, long part) {
         long low = part & all(v);
         long high = part >>> (1 << v);
         long change = low ^ high;
         if (change == 0) {
-            pushPart(x, v, low);
+            pushPart(x, v - 1, low);
             return;
         }
-        if (high == 0) {
-            pushPart(x, v, low);
+        if (high == 0 && low != all(v)) {
+            pushPart(x, v - 1, low);
             x.atom(v);
             x.connect(BeliefBase.NOT);
             x.connect(BeliefBase.AND);
             return;
         }
-        boolean alwaysChanges = change == all(v);
-        if (alwaysChanges) {
-            x.atom(v);
-        } else {
-            pushPart(x, v, change);
-            x.atom(v);
-            x.connect(BeliefBase.AND);
-        }
-        if (low != 0) {
-            pushPart(x, v, low);
+        pushWhere(x, v, change);
+        if (low == all(v)) {
+            x.connect(BeliefBase.NOT);
+        } else if (low != 0) {
+            pushPart(x, v - 1, low);
             x.connect(BeliefBase.XOR);
         }
+    }
+
+    private static void pushWhere(BeliefBase x, int v, long change) {
+        if (change == all(v)) {
+            x.atom(v);
+            return;
+        }
+        pushPart(x, v - 1, change);
+        x.atom(v);
+        x.connect(BeliefBase.AND);
     }
 
     /** Makes a belief that holds all worlds hold just those of the set. */
