@@ -64,9 +64,7 @@ public final class ModelTest {
     }
 
     private static void compareMerge(int n, long a, long b, long formula) {
-        BeliefBase x = new BeliefBase(n);
-        Sets.narrow(x, n, 0, a);
-        Sets.narrow(x, n, 1, b);
+        BeliefBase x = Sets.base(n, a, b);
         Sets.push(x, n, formula);
         Model m = Model.of(n, new long[] {a, b}, formula);
         String told = "n " + n + ", a " + Long.toHexString(a) + ", b " + Long.toHexString(b)
@@ -92,9 +90,7 @@ public final class ModelTest {
     }
 
     private static void comparePair(int n, long one, long other) {
-        BeliefBase x = new BeliefBase(n);
-        Sets.narrow(x, n, 0, one);
-        Sets.narrow(x, n, 1, other);
+        BeliefBase x = Sets.base(n, one, other);
         x.quote(1);
         Model m = Model.of(n, new long[] {one, other}, other);
         String told = "n " + n + ", " + Long.toHexString(one) + " and " + Long.toHexString(other) + ": ";
@@ -198,7 +194,7 @@ public final class ModelTest {
         switch (random(40)) {
             case 0: return bound;
             case 1: return -1;
-            case 2: return Due.NEVER_GOOD[random(Due.NEVER_GOOD.length)];
+            case 2: return Bad.ANYWHERE[random(Bad.ANYWHERE.length)];
             default: return random(bound);
         }
     }

@@ -1,4 +1,6 @@
+import java.util.function.IntPredicate;
 import java.util.function.IntUnaryOperator;
+import java.util.stream.IntStream;
 
 /** Makes formulas and beliefs out of sets of worlds, by the public calls alone; bit w of a set stands for world w. */
 final class Sets {
@@ -17,6 +19,23 @@ final class Sets {
 
     static long all(int n) {
         return n == 6 ? -1L : (1L << (1 << n)) - 1;
+    }
+
+    static long where(int n, IntPredicate wanted) {
+        return of(IntStream.range(0, 1 << n).filter(wanted).toArray());
+    }
+
+    static long where(int n, int v, int value) {
+        return where(n, w -> (w >> v & 1) == value);
+    }
+
+    static long withOnes(int n, int fewest, int most) {
+        return where(n, w -> Integer.bitCount(w) >= fewest && Integer.bitCount(w) <= most);
+    }
+
+    /** The worlds that differ from the given one in one variable. */
+    static long around(int n, int world) {
+        return where(n, w -> Integer.bitCount(w ^ world) == 1);
     }
 
     /** Puts the formula on the stack that is true just at the worlds of the set; needs n free places. */
@@ -73,18 +92,12 @@ final class Sets {
         x.expand(b);
     }
 
-    /** A new object with the worlds of the three beliefs. */
-    static BeliefBase base(int n, long first, long second, long third) {
+    /** A new object with the worlds of the first beliefs; those not given hold all worlds. */
+    static BeliefBase base(int n, long... beliefs) {
         BeliefBase x = new BeliefBase(n);
-        narrow(x, n, 0, first);
-        narrow(x, n, 1, second);
-        narrow(x, n, 2, third);
-        return x;
-    }
-
-    static BeliefBase base(int n, long first) {
-        BeliefBase x = new BeliefBase(n);
-        narrow(x, n, 0, first);
+        for (int b = 0; b < beliefs.length; b++) {
+            narrow(x, n, b, beliefs[b]);
+        }
         return x;
     }
 
