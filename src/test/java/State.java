@@ -6,6 +6,7 @@ final class State {
     static final int MOST_FORMULAS = 8;
 
     private final int depth;
+    private final int[] counts = new int[3];
     private final long[] beliefs = new long[3];
     private final long[] formulas = new long[MOST_FORMULAS];
 
@@ -13,6 +14,7 @@ final class State {
     private State(Supplier<BeliefBase> object) {
         depth = object.get().depth();
         for (int b = 0; b < beliefs.length; b++) {
+            counts[b] = object.get().count(b);
             beliefs[b] = Sets.belief(object.get(), b);
         }
         for (int i = 0; i < MOST_FORMULAS; i++) {
@@ -50,6 +52,7 @@ final class State {
         });
         due.due(told + ", then depth()", is.depth, was.depth);
         for (int b = 0; b < is.beliefs.length; b++) {
+            due.due(told + ", then count(" + b + ")", is.counts[b], was.counts[b]);
             due.dueWorlds(told + ", then belief " + b, is.beliefs[b], was.beliefs[b]);
         }
         for (int i = 0; i < MOST_FORMULAS; i++) {

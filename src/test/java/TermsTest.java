@@ -34,6 +34,12 @@ public final class TermsTest {
             Call call = round.get(i % round.size());
             DUE.due("call " + (i + 1) + ", " + call.name(), call.of(x), call.due());
         }
+        // What later calls answer is free, but the language rules let none of them throw.
+        for (int i = 0; i < MOST_CALLS; i++) {
+            x.atom(0);
+            x.connect(i % 5);
+            x.revise(i % 3);
+        }
     }
 
     /** Sixteen calls after which the object is as it was when new. */
@@ -137,11 +143,12 @@ public final class TermsTest {
         DUE.sentence("Terms", n, "The DISTANCE of two worlds is the number of variables whose values differ in them.");
         for (int w = 0; w < 1 << n; w++) {
             int opposite = (1 << n) - 1 - w;
+            int[] apart = {0, n, Integer.bitCount(w)};
             BeliefBase x = Sets.base(n, Sets.of(w), Sets.of(opposite), Sets.of(0));
-            String told = "world " + w;
-            DUE.due(told + ", distance from itself", x.distance(0, 0), 0);
-            DUE.due(told + ", distance from its opposite", x.distance(0, 1), n);
-            DUE.due(told + ", distance from world 0", x.distance(0, 2), Integer.bitCount(w));
+            for (int b = 0; b < 3; b++) {
+                DUE.due("world " + w + ", distance(0, " + b + ")", x.distance(0, b), apart[b]);
+                DUE.due("world " + w + ", reach(0, " + b + ")", x.reach(0, b), apart[b]);
+            }
         }
     }
 

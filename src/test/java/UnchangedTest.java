@@ -7,6 +7,9 @@ import java.util.function.ToIntFunction;
 /** What 'Terms' says of questions and of refused calls: every one of them, in several states, changes nothing. */
 public final class UnchangedTest {
     private static final Due DUE = new Due();
+    private static final int[] BELIEFS = {0, 1, 2};
+    private static final int[] KINDS = {
+        BeliefBase.NOT, BeliefBase.AND, BeliefBase.OR, BeliefBase.XOR, BeliefBase.IMPLIES};
 
     public static void main(String[] args) {
         for (int n = 2; n <= 6; n++) {
@@ -49,26 +52,21 @@ public final class UnchangedTest {
 
     private static void questionsLeaveTheStack(int n) {
         DUE.sentence("Terms", n, "Questions leave the stack as it is.");
-        Map<String, ToIntFunction<BeliefBase>> questions = questions(n);
-        for (String question : questions.keySet()) {
-            String told = question;
+        questions(n).forEach((name, question) -> {
             BeliefBase empty = State.made(n, 0);
-            questions.get(question).applyAsInt(empty);
-            DUE.due(told + " with an empty stack, then depth()", empty.depth(), 0);
+            question.applyAsInt(empty);
+            DUE.due(name + " with an empty stack, then depth()", empty.depth(), 0);
             BeliefBase full = State.made(n, 8);
-            questions.get(question).applyAsInt(full);
-            DUE.due(told + " with a full stack, then depth()", full.depth(), 8);
-            DUE.dueWorlds(told + ", then the top", Sets.top(full), Sets.all(n) & ~Sets.of(1));
-        }
+            question.applyAsInt(full);
+            DUE.due(name + " with a full stack, then depth()", full.depth(), 8);
+            DUE.dueWorlds(name + ", then the top", Sets.top(full), Sets.all(n) & ~Sets.of(1));
+        });
     }
 
     private static void questionsChangeNothing(int n) {
         DUE.sentence("Terms", n, "No question changes anything.");
         for (int depth : new int[] {0, 1, 8}) {
-            Map<String, ToIntFunction<BeliefBase>> questions = questions(n);
-            for (String question : questions.keySet()) {
-                dueUnchanged(n, depth, question, questions.get(question));
-            }
+            questions(n).forEach((name, question) -> dueUnchanged(n, depth, name, question));
         }
     }
 
@@ -77,58 +75,49 @@ public final class UnchangedTest {
         State.dueUnchanged(DUE, told, () -> State.made(n, depth), call::applyAsInt);
     }
 
-    /** The calls that are no questions, each with arguments and a depth at which it is refused. */
-    private static List<Call> refusedAt(int n, int depth) {
+    /** The calls that are no questions, each with a number that is not good. */
+    private static List<Call> refusedForTheNumbers(int n) {
         List<Call> calls = new ArrayList<>();
-        for (int bad : new int[] {-1, 6, Integer.MIN_VALUE, Integer.MAX_VALUE}) {
-            calls.add(new Call("atom(" + bad + ")", -1, x -> x.atom(bad)));
+        for (int bad : Bad.beliefs()) {
             calls.add(new Call("quote(" + bad + ")", -1, x -> x.quote(bad)));
-            calls.add(new Call("connect(" + bad + ")", -1, x -> x.connect(bad)));
-            calls.addAll(Call.changes(bad, -1));
-            for (int b = 0; b < 3; b++) {
-                int it = b;
-                calls.add(new Call("merge(" + bad + ", " + b + ")", -1, x -> x.merge(bad, it)));
-                calls.add(new Call("merge(" + b + ", " + bad + ")", -1, x -> x.merge(it, bad)));
-                calls.add(new Call("copy(" + bad + ", " + b + ")", -1, x -> x.copy(bad, it)));
-                calls.add(new Call("copy(" + b + ", " + bad + ")", -1, x -> x.copy(it, bad)));
-                calls.add(new Call("forget(" + b + ", " + bad + ")", -2, x -> x.forget(it, bad)));
-            }
             calls.add(new Call("forget(" + bad + ", 0)", -1, x -> x.forget(bad, 0)));
+            calls.addAll(Call.changes(bad, -1));
+            for (int b : BELIEFS) {
+                calls.add(new Call("merge(" + bad + ", " + b + ")", -1, x -> x.merge(bad, b)));
+                calls.add(new Call("merge(" + b + ", " + bad + ")", -1, x -> x.merge(b, bad)));
+                calls.add(new Call("copy(" + bad + ", " + b + ")", -1, x -> x.copy(bad, b)));
+                calls.add(new Call("copy(" + b + ", " + bad + ")", -1, x -> x.copy(b, bad)));
+            }
         }
-        calls.add(new Call("atom(n)", -1, x -> x.atom(n)));
-        calls.add(new Call("quote(3)", -1, x -> x.quote(3)));
-        calls.add(new Call("connect(5)", -1, x -> x.connect(5)));
-        calls.addAll(Call.changes(3, -1));
-        calls.add(new Call("merge(3, 0)", -1, x -> x.merge(3, 0)));
-        calls.add(new Call("merge(0, 3)", -1, x -> x.merge(0, 3)));
-        calls.add(new Call("copy(3, 0)", -1, x -> x.copy(3, 0)));
-        calls.add(new Call("copy(0, 3)", -1, x -> x.copy(0, 3)));
-        calls.add(new Call("forget(3, 0)", -1, x -> x.forget(3, 0)));
-        calls.add(new Call("forget(0, n)", -2, x -> x.forget(0, n)));
-        calls.addAll(refusedForTheDepth(depth));
+        for (int bad : Bad.variables(n)) {
+            calls.add(new Call("atom(" + bad + ")", -1, x -> x.atom(bad)));
+            for (int b : BELIEFS) {
+                calls.add(new Call("forget(" + b + ", " + bad + ")", -2, x -> x.forget(b, bad)));
+            }
+        }
+        for (int bad : Bad.kinds()) {
+            calls.add(new Call("connect(" + bad + ")", -1, x -> x.connect(bad)));
+        }
         return calls;
     }
 
-    private static List<Call> refusedForTheDepth(int depth) {
+    /** The calls that are no questions and that too few or too many formulas forbid. */
+    private static List<Call> refusedForTheDepth(int n, int depth) {
         List<Call> calls = new ArrayList<>();
-        for (int kind = BeliefBase.NOT; kind <= BeliefBase.IMPLIES; kind++) {
-            int it = kind;
+        for (int kind : KINDS) {
             if (depth == 0 || depth == 1 && kind != BeliefBase.NOT) {
-                calls.add(new Call("connect(" + kind + ")", -2, x -> x.connect(it)));
+                calls.add(new Call("connect(" + kind + ")", -2, x -> x.connect(kind)));
             }
         }
-        for (int b = 0; b < 3; b++) {
-            int it = b;
+        for (int b : BELIEFS) {
             if (depth == 0) {
                 calls.addAll(Call.changes(b, -2));
-                calls.add(new Call("merge(0, " + b + ")", -2, x -> x.merge(0, it)));
+                calls.add(new Call("merge(0, " + b + ")", -2, x -> x.merge(0, b)));
             }
             if (depth == State.MOST_FORMULAS) {
-                calls.add(new Call("quote(" + b + ")", -2, x -> x.quote(it)));
+                calls.add(new Call("quote(" + b + ")", -2, x -> x.quote(b)));
+                calls.add(new Call("atom(" + b % n + ")", -2, x -> x.atom(b % n)));
             }
-        }
-        if (depth == State.MOST_FORMULAS) {
-            calls.add(new Call("atom(1)", -2, x -> x.atom(1)));
         }
         return calls;
     }
@@ -136,7 +125,9 @@ public final class UnchangedTest {
     private static void refusedCallsChangeNothing(int n) {
         DUE.sentence("Terms", n, "A refused call changes nothing.");
         for (int depth : new int[] {0, 1, 2, 8}) {
-            for (Call call : refusedAt(n, depth)) {
+            List<Call> calls = refusedForTheNumbers(n);
+            calls.addAll(refusedForTheDepth(n, depth));
+            for (Call call : calls) {
                 String told = "depth " + depth + ", " + call.name();
                 DUE.due(told, call.of(State.made(n, depth)), call.due());
                 dueUnchanged(n, depth, call.name(), call.made());
