@@ -243,12 +243,17 @@ public final class ChangeEdgeTest {
 
     private static void forgetLeavesTheStack(int n) {
         DUE.sentence("Promise 11", n, "The stack stays as it is.");
+        dueStackStays(n, "forget(1, 0)", x -> x.forget(1, 0));
+    }
+
+    /** A call after which belief 1 holds two worlds, however many formulas there are. */
+    private static void dueStackStays(int n, String name, ToIntFunction<BeliefBase> call) {
         for (int depth : new int[] {0, 1, 8}) {
             BeliefBase x = State.made(n, depth);
             long top = Sets.top(x);
-            DUE.due("forget(1, 0) on " + depth, x.forget(1, 0), 2);
-            DUE.due("forget(1, 0) on " + depth + ", then depth()", x.depth(), depth);
-            DUE.dueWorlds("forget(1, 0) on " + depth + ", then the top", Sets.top(x), top);
+            DUE.due(name + " on " + depth, call.applyAsInt(x), 2);
+            DUE.due(name + " on " + depth + ", then depth()", x.depth(), depth);
+            DUE.dueWorlds(name + " on " + depth + ", then the top", Sets.top(x), top);
         }
     }
 
@@ -377,12 +382,6 @@ public final class ChangeEdgeTest {
     // Promise 13 names no F and no empty stack, so a copy needs no formula and takes none.
     private static void copyLeavesTheStack(int n) {
         DUE.sentence("Promise 13", n, "-1 if a or b is not good; otherwise answers");
-        for (int depth : new int[] {0, 1, 8}) {
-            BeliefBase x = State.made(n, depth);
-            long top = Sets.top(x);
-            DUE.due("copy(0, 1) on " + depth, x.copy(0, 1), 2);
-            DUE.due("copy(0, 1) on " + depth + ", then depth()", x.depth(), depth);
-            DUE.dueWorlds("copy(0, 1) on " + depth + ", then the top", Sets.top(x), top);
-        }
+        dueStackStays(n, "copy(0, 1)", x -> x.copy(0, 1));
     }
 }

@@ -1,3 +1,5 @@
+import java.util.function.ToIntBiFunction;
+
 /** The boundary cases that promises 1 to 6 name, a sentence at a time, for every number of variables. */
 public final class FormulaEdgeTest {
     private static final Due DUE = new Due();
@@ -89,6 +91,29 @@ public final class FormulaEdgeTest {
         DUE.due("depth() after one more", x.depth(), 0);
     }
 
+    private static void dueRefused(int n, String name, ToIntBiFunction<BeliefBase, Integer> call, int[] notGood) {
+        for (int depth : new int[] {0, 1, 2, 7, 8}) {
+            for (int bad : notGood) {
+                BeliefBase x = State.made(n, depth);
+                String told = name + "(" + bad + ") on " + depth;
+                DUE.due(told, call.applyAsInt(x, bad), -1);
+                DUE.due(told + ", then depth()", x.depth(), depth);
+            }
+        }
+    }
+
+    /** The eighth formula is taken, a ninth is refused whichever it is, and another eighth is taken again. */
+    private static void dueFull(int n, String name, ToIntBiFunction<BeliefBase, Integer> call, int good) {
+        BeliefBase x = State.made(n, 7);
+        DUE.due(name + "(0) on 7", call.applyAsInt(x, 0), 8);
+        for (int one = 0; one < good; one++) {
+            DUE.due(name + "(" + one + ") on 8", call.applyAsInt(x, one), -2);
+        }
+        DUE.due("then depth()", x.depth(), 8);
+        x.expand(0);
+        DUE.due(name + "(" + (good - 1) + ") when one has gone", call.applyAsInt(x, good - 1), 8);
+    }
+
     private static void atomOfEachVariable(int n) {
         DUE.sentence("Promise 3", n, "Puts the formula on the stack that is true where variable v has the value 1.");
         for (int v : new int[] {0, n - 1}) {
@@ -102,25 +127,12 @@ public final class FormulaEdgeTest {
 
     private static void atomOfNoVariable(int n) {
         DUE.sentence("Promise 3", n, "-1 if v is not good");
-        for (int depth : new int[] {0, 7, 8}) {
-            for (int v : Bad.variables(n)) {
-                BeliefBase x = State.made(n, depth);
-                DUE.due("atom(" + v + ") on " + depth, x.atom(v), -1);
-                DUE.due("atom(" + v + ") on " + depth + ", then depth()", x.depth(), depth);
-            }
-        }
+        dueRefused(n, "atom", BeliefBase::atom, Bad.variables(n));
     }
 
     private static void atomOnFullStack(int n) {
         DUE.sentence("Promise 3", n, "-2 if there are 8 formulas on the stack");
-        BeliefBase x = State.made(n, 7);
-        DUE.due("atom(0) on 7", x.atom(0), 8);
-        for (int v = 0; v < n; v++) {
-            DUE.due("atom(" + v + ") on 8", x.atom(v), -2);
-        }
-        DUE.due("then depth()", x.depth(), 8);
-        x.expand(0);
-        DUE.due("atom(n - 1) when one has gone", x.atom(n - 1), 8);
+        dueFull(n, "atom", BeliefBase::atom, n);
     }
 
     private static void atomAnswersDepth(int n) {
@@ -160,25 +172,12 @@ public final class FormulaEdgeTest {
 
     private static void quoteOfNoBelief(int n) {
         DUE.sentence("Promise 4", n, "-1 if b is not good");
-        for (int depth : new int[] {0, 7, 8}) {
-            for (int b : Bad.beliefs()) {
-                BeliefBase x = State.made(n, depth);
-                DUE.due("quote(" + b + ") on " + depth, x.quote(b), -1);
-                DUE.due("quote(" + b + ") on " + depth + ", then depth()", x.depth(), depth);
-            }
-        }
+        dueRefused(n, "quote", BeliefBase::quote, Bad.beliefs());
     }
 
     private static void quoteOnFullStack(int n) {
         DUE.sentence("Promise 4", n, "-2 if there are 8 formulas on the stack");
-        BeliefBase x = State.made(n, 7);
-        DUE.due("quote(2) on 7", x.quote(2), 8);
-        for (int b = 0; b < 3; b++) {
-            DUE.due("quote(" + b + ") on 8", x.quote(b), -2);
-        }
-        DUE.due("then depth()", x.depth(), 8);
-        x.expand(0);
-        DUE.due("quote(0) when one has gone", x.quote(0), 8);
+        dueFull(n, "quote", BeliefBase::quote, 3);
     }
 
     private static void quoteAnswersDepth(int n) {
@@ -238,13 +237,7 @@ public final class FormulaEdgeTest {
 
     private static void connectOfNoKind(int n) {
         DUE.sentence("Promise 5", n, "-1 if kind is not in 0 .. 4");
-        for (int depth : new int[] {0, 1, 2, 8}) {
-            for (int kind : Bad.kinds()) {
-                BeliefBase x = State.made(n, depth);
-                DUE.due("connect(" + kind + ") of " + depth, x.connect(kind), -1);
-                DUE.due("connect(" + kind + ") of " + depth + ", then depth()", x.depth(), depth);
-            }
-        }
+        dueRefused(n, "connect", BeliefBase::connect, Bad.kinds());
     }
 
     private static void connectOfTooFew(int n) {
