@@ -1,21 +1,15 @@
-import java.io.IOException;
 import java.lang.reflect.Constructor;
 import java.lang.reflect.Field;
 import java.lang.reflect.Method;
 import java.lang.reflect.Modifier;
-import java.nio.file.Files;
-import java.nio.file.Path;
 import java.util.Arrays;
 import java.util.List;
 import java.util.Set;
 import java.util.TreeSet;
-import java.util.regex.Matcher;
-import java.util.regex.Pattern;
 
-/** The document's public face, no more and no less, and the language rules that a short look can tell. */
+/** The document's public face, no more and no less. */
 public final class FaceTest {
     private static final Due DUE = new Due();
-    private static final Path SOURCE = Path.of("src/main/java/BeliefBase.java");
 
     private static final Set<String> METHODS = new TreeSet<>(List.of(
         "depth 0", "atom 1", "quote 1", "connect 1", "truth 1", "expand 1", "revise 1", "update 1", "giveUp 1",
@@ -24,20 +18,9 @@ public final class FaceTest {
 
     private static final Set<String> CONSTANTS = new TreeSet<>(List.of("NOT", "AND", "OR", "XOR", "IMPLIES"));
 
-    private static final List<Class<?>> ALLOWED = List.of(
-        int.class, long.class, short.class, byte.class, char.class, boolean.class,
-        int[].class, long[].class, short[].class, byte[].class, char[].class, boolean[].class);
-
-    private static final String[] FORBIDDEN = {
-        "import", "package", "null", "throw", "throws", "try", "catch", "synchronized", "assert", "instanceof",
-        "float", "double", "String", "Math", "Integer", "Long", "System", "Arrays", "Object", "enum", "interface",
-        "record", "protected", "->", "::"};
-
-    public static void main(String[] args) throws IOException {
+    public static void main(String[] args) {
         constants();
         publicFace();
-        privateMembers();
-        source();
         DUE.end();
     }
 
@@ -76,36 +59,5 @@ public final class FaceTest {
             }
         }
         DUE.dueTrue("the constants are " + constants + ", not " + CONSTANTS, constants.equals(CONSTANTS));
-    }
-
-    private static void privateMembers() {
-        DUE.due("nested classes", BeliefBase.class.getDeclaredClasses().length, 0);
-        Set<String> publicNames = new TreeSet<>();
-        METHODS.forEach(method -> publicNames.add(method.substring(0, method.indexOf(' '))));
-        for (Method method : BeliefBase.class.getDeclaredMethods()) {
-            if (Modifier.isPrivate(method.getModifiers())) {
-                DUE.dueTrue(method + " bears a public name", !publicNames.contains(method.getName()));
-                DUE.dueTrue(method + " has too many parameters", method.getParameterCount() <= 7);
-                DUE.dueTrue(method + " answers an array", !method.getReturnType().isArray());
-            }
-        }
-        for (Field field : BeliefBase.class.getDeclaredFields()) {
-            DUE.dueTrue(field + " has a type that is not allowed", ALLOWED.contains(field.getType()));
-            boolean constant = Modifier.isFinal(field.getModifiers()) && !field.getType().isArray();
-            DUE.dueTrue(field + " is static but no constant", !Modifier.isStatic(field.getModifiers()) || constant);
-        }
-    }
-
-    private static void source() throws IOException {
-        String code = Files.readString(SOURCE).replaceAll("(?s)/\\*.*?\\*/", "").replaceAll("//[^\n]*", "");
-        for (String word : FORBIDDEN) {
-            String pattern = Character.isLetter(word.charAt(0)) ? "\\b" + word + "\\b" : Pattern.quote(word);
-            DUE.dueTrue("the program says " + word, !Pattern.compile(pattern).matcher(code).find());
-        }
-        String callStart = "\\b(?!(?:if|for|while|switch|return)\\b)\\w+\\(";
-        Matcher call = Pattern.compile(callStart + "[^(){};]*" + callStart).matcher(code);
-        while (call.find()) {
-            DUE.dueTrue("a call stands inside the arguments of another: " + call.group(), false);
-        }
     }
 }
